@@ -737,6 +737,37 @@ public final class StoryNumbersPromises {
         due("plan(1, 3, NONE)", x.plan(1, 3, NONE), 6);
         x.never(0, 1, true);
         due("plan(1, 3, NONE) with NEVER", x.plan(1, 3, NONE), NONE);
+        x = told(TEN);
+        for (int n = 2; n <= 10; n++) {
+            due("plan(" + n + ", 1023, 0)", x.plan(n, 1023, 0), n == 2 ? 15 : 1);
+            due("plan(" + n + ", 1023, NONE)", x.plan(n, 1023, NONE), 0);
+        }
+        due("plan(10, 1023, 9)", x.plan(10, 1023, 9), 512);
+        due("plan(11, 1023, NONE)", x.plan(11, 1023, NONE), NONE);
+        due("plan(11, 1023, 0)", x.plan(11, 1023, 0), NONE);
+        plansAreMadeAnew();
+    }
+
+    /** The same question behind each call that can change its answer. */
+    private static void plansAreMadeAnew() {
+        StoryNumbers x = told("scene 5 opens 0;scene 6 joy 5 after 0;scene 7 joy 7 with 1 after 0;scene 8 dies 1;");
+        x.keep(0);
+        due("plan(1, 2, NONE)", x.plan(1, 2, NONE), NONE);
+        due("kind(1, 2, 1)", x.kind(1, 2, 1), 5 + 7 + 2);
+        number(x, 0);
+        due("plan(1, 2, NONE) behind print()", x.plan(1, 2, NONE), 5 + 2);
+        x.law(5, 3);
+        due("plan(1, 2, NONE) behind law()", x.plan(1, 2, NONE), 5 + 3);
+        due("kind(1, 2, 0)", x.kind(1, 2, 0), 6);
+        x.keep(1);
+        number(x, 3);
+        due("kind(1, 2, 0) behind print()", x.kind(1, 2, 0), 2);
+        x.goBack(1);
+        due("kind(1, 2, 0) behind goBack(1)", x.kind(1, 2, 0), 6);
+        x.goBack(0);
+        due("plan(1, 2, NONE) behind goBack(0)", x.plan(1, 2, NONE), NONE);
+        tell(x, "scene 1;scene 2 joy 9;");
+        due("plan(1, 2, NONE) behind story()", x.plan(1, 2, NONE), 9);
     }
 
     private static void promise26Kind() {
@@ -749,6 +780,10 @@ public final class StoryNumbersPromises {
         due("kind(4, 3, 0)", x.kind(4, 3, 0), NONE);
         due("kind(4, 3, 1)", x.kind(4, 3, 1), NONE);
         due("kind(12, 0, 0)", x.kind(12, 0, 0), NONE);
+        StoryNumbers ten = told(TEN);
+        due("kind(10, 255, 0) of ten", ten.kind(10, 255, 0), 1023);
+        due("kind(10, 255, 1) of ten", ten.kind(10, 255, 1), 0);
+        due("kind(11, 255, 1) of ten", ten.kind(11, 255, 1), NONE);
         x.law(1, 5);
         due("kind(1, 0, 0): the greatest WORTH, the least SET", x.kind(1, 0, 0), 2);
         due("kind(1, 0, 1)", x.kind(1, 0, 1), 2);
@@ -796,6 +831,15 @@ public final class StoryNumbersPromises {
         x = told(TEN);
         x.add(0);
         due("chapter(1, NONE) of a DRAFT", x.chapter(1, NONE), NOT);
+        x.print();
+        for (int k = 1; k < 10; k++) {
+            number(x, k);
+        }
+        int[] eight = {3, 1, 1, 1, 1, 1, 1, 1};
+        for (int i = 0; i < 8; i++) {
+            due("chapter(8, " + i + ")", x.chapter(8, i), eight[i]);
+        }
+        due("chapter(8, NONE)", x.chapter(8, NONE), 36 + 16 + 25 + 36 + 49 + 64 + 81 + 100);
     }
 
     private static void promises28And29KeepAndGoBack() {
