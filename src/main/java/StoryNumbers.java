@@ -510,14 +510,24 @@ public final class StoryNumbers {
         }
 
         private void take(int word, int value) {
-            told.put(told.count, word, value);
+            if (Story.isList(word)) {
+                include(word, value);
+            } else {
+                told.put(told.count, word, value);
+            }
             if (word == Story.OPENS) {
                 opened |= 1 << value;
             } else if (word == Story.SHUTS) {
                 shut |= 1 << value;
             } else if (word == Story.DIES) {
                 dead |= 1 << value;
+                // who dies in a SCENE is in it, told so or not
+                include(Story.PERSONS, value);
             }
+        }
+
+        private void include(int word, int value) {
+            told.put(told.count, word, told.cell(told.count, word) | 1 << value);
         }
     }
 
@@ -533,30 +543,19 @@ public final class StoryNumbers {
             return word >= PERSONS && word <= NEEDS;
         }
 
-        private static boolean isCell(int k, int what) {
-            return k >= 0 && k < MOST_SCENES && what >= 0 && what < CELLS;
+        int cell(int k, int what) {
+            return k >= 0 && k < MOST_SCENES && what >= 0 && what < CELLS ? cells[k][what] : 0;
         }
 
-        int cell(int k, int what) {
-            return isCell(k, what) ? cells[k][what] : 0;
+        void put(int k, int what, int value) {
+            if (k >= 0 && k < MOST_SCENES && what >= 0 && what < CELLS) {
+                cells[k][what] = value;
+            }
         }
 
         void clearScene(int k) {
             for (int what = 0; what < CELLS; what++) {
-                if (isCell(k, what)) {
-                    cells[k][what] = what == DIES ? NONE : 0;
-                }
-            }
-        }
-
-        void put(int k, int what, int value) {
-            if (!isCell(k, what)) {
-                return;
-            }
-            cells[k][what] = isList(what) ? cells[k][what] | 1 << value : value;
-            if (what == DIES) {
-                // who dies in a SCENE is in it, told so or not
-                cells[k][PERSONS] |= 1 << value;
+                put(k, what, what == DIES ? NONE : 0);
             }
         }
 
@@ -1108,7 +1107,8 @@ public final class StoryNumbers {
             for (int turn = 1; turn < 1 << count; turn++) {
                 part = (part - left) & left;
                 int worth = worthOfPart(ahead, part);
-                for (int n = 1; n <= count && worth != NONE; n++) {
+                int most = worth == NONE ? 0 : 1 + count - Integer.bitCount(part);
+                for (int n = 1; n <= most; n++) {
                     int behind = best[n - 1][ahead | part];
                     // only a greater WORTH: of like ones the least part, which was ahead, stays
                     if (behind != NONE && behind + worth > best[n][ahead]) {
@@ -1152,11 +1152,12 @@ public final class StoryNumbers {
         private void gatherBehind(int ahead, int left) {
             findParts(ahead, left);
             int count = Integer.bitCount(left);
+            int most = Integer.bitCount(ahead);
             int part = 0;
             for (int turn = 1; turn < 1 << count; turn++) {
                 part = (part - left) & left;
                 int worth = worthOfPart(ahead, part);
-                for (int n = 0; n < MOST_SCENES && worth != NONE; n++) {
+                for (int n = 0; n <= most && worth != NONE; n++) {
                     if (gathered[n][ahead] != NONE) {
                         int set = ahead | part;
                         gathered[n + 1][set] = Math.max(gathered[n + 1][set], gathered[n][ahead] + worth);
@@ -1184,7 +1185,7 @@ public final class StoryNumbers {
         }
 
         private void growPart(int behind, int part, int next) {
-            for (int k = 0; k < story.count; k++) {
+            for (int k = 0; k < story.count && next >> k != 0; k++) {
                 if ((next >> k & 1) == 1) {
                     int grown = part | 1 << k;
                     boolean hooks = (story.cell(k, Story.OPENS) & sets.open[behind | grown]) != 0;
