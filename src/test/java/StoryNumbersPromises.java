@@ -5,76 +5,9 @@ import java.lang.reflect.Modifier;
 import java.util.TreeSet;
 
 /** A method a promise: ordinary inputs, the edges that the document names, wrong inputs. */
-public final class StoryNumbersPromises {
-    private static final int NONE = -1, UNKNOWN = -1001, OUTSIDE = -1002, NOT = -1003, FULL = -1004;
-    private static final int[] WRONG = {Integer.MIN_VALUE, -1003, -1, 10, 31, 32, 1000, Integer.MAX_VALUE};
-
+public final class StoryNumbersPromises extends Answers {
     private static final String STORY = "scene 10 joy 3 with 0,1 opens 0;scene 12 with 1 after 0 opens 1 tells 2;"
             + "scene 8 with 2,0 after 0 shuts 1;scene 20 joy 9 with 0 shuts 0 needs 2;scene 5 opens 2 dies 1;";
-    private static final String TEN = "scene1;scene2;scene3;scene4;scene5;scene6;scene7;scene8;scene9;scene10;";
-
-    private static int wrong = 0;
-    private static int held = 0;
-
-    private static void due(String call, long got, long want) {
-        held++;
-        if (got != want) {
-            wrong++;
-            System.out.println(call + " answered " + got + ", due is " + want);
-        }
-    }
-
-    private static void feed(StoryNumbers x, String text) {
-        for (int from = 0; from < text.length(); from += 8) {
-            int n = Math.min(8, text.length() - from);
-            long bytes = 0;
-            for (int i = 0; i < n; i++) {
-                bytes = bytes << 8 | text.charAt(from + i);
-            }
-            x.feed(n, bytes);
-        }
-    }
-
-    private static int tell(StoryNumbers x, String text) {
-        feed(x, text);
-        return x.story();
-    }
-
-    private static StoryNumbers told(String text) {
-        StoryNumbers x = new StoryNumbers();
-        int scenes = tell(x, text);
-        if (scenes < 0) {
-            due("story() of " + text, scenes, 0);
-        }
-        return x;
-    }
-
-    private static void number(StoryNumbers x, int... scenes) {
-        for (int k : scenes) {
-            if (x.add(k) < 0) {
-                due("add(" + k + ")", NOT, 1);
-            }
-        }
-        if (x.print() < 0) {
-            due("print()", NOT, 0);
-        }
-    }
-
-    /** The text has the FAULT at the byte, and leaves THE STORY as it was. */
-    private static void faulty(String text, int fault, int at) {
-        StoryNumbers x = told("scene 7;scene 8;");
-        due("story() of '" + text + "'", tell(x, text), -10 - fault);
-        due("fault() of '" + text + "'", x.fault(), at);
-        due("count(0) behind '" + text + "'", x.count(0), 2);
-        due("count(5) behind '" + text + "'", x.count(5), 0);
-    }
-
-    private static void sound(String text, int scenes) {
-        StoryNumbers x = new StoryNumbers();
-        due("story() of '" + text + "'", tell(x, text), scenes);
-        due("fault() of '" + text + "'", x.fault(), NONE);
-        due("count(0) of '" + text + "'", x.count(0), scenes);
-    }
 
     private static void theFace() {
         TreeSet<String> names = new TreeSet<>();
@@ -917,9 +850,6 @@ public final class StoryNumbersPromises {
         promise26Kind();
         promise27Chapter();
         promises28And29KeepAndGoBack();
-        System.out.println("promises: " + held + " answers held against those due, " + wrong + " wrong");
-        if (wrong != 0) {
-            System.exit(1);
-        }
+        end("promises");
     }
 }
