@@ -82,6 +82,36 @@ public final class StoryNumbersOrderBounds extends Answers {
         may(x, 2, 1, 1);
     }
 
+    private static String factsBut(int f) {
+        StringBuilder facts = new StringBuilder();
+        for (int g = 0; g < 8; g++) {
+            facts.append(g == f ? "" : (facts.length() == 0 ? "" : ",") + g);
+        }
+        return facts.toString();
+    }
+
+    private static void everyPairOfNever() {
+        for (int f = 0; f < 8; f++) {
+            StoryNumbers x = told("scene 1 tells " + f + ";scene 1 tells " + factsBut(f) + ";");
+            may(x, 0, 2, 1);
+            may(x, 1, 1, 1);
+            for (int g = 0; g < 8; g++) {
+                if (g != f) {
+                    x.never(f, g, true);
+                    may(x, 0, 2, 0);
+                    may(x, 1, 1, 0);
+                    may(x, 0, 0, 1);
+                    may(x, 1, 0, 1);
+                    x.never(g, f, false);
+                }
+            }
+            // both by itself
+            x.never((f + 1) % 8, (f + 2) % 8, true);
+            may(x, 1, 0, 0);
+            may(x, 0, 0, 1);
+        }
+    }
+
     private static void dies() {
         says("nobody who is in it dies in a SCENE of the SET");
         StoryNumbers x = told("scene 1 with 0,7;scene 1 dies 0;scene 1 dies 7;scene 1 with 6;scene 1 with 0,6 dies 6;");
@@ -347,6 +377,7 @@ public final class StoryNumbersOrderBounds extends Answers {
         shuts();
         needs();
         never();
+        everyPairOfNever();
         dies();
         setArguments();
         sceneArguments();

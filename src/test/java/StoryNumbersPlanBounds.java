@@ -135,6 +135,16 @@ public final class StoryNumbersPlanBounds extends Answers {
         parts(x, 2, 6, 2, 4);
         number(x, 4);
         worth(x, 1, 32, NONE);
+        // JOY of what comes behind makes no part of what can be none
+        x = told("scene 1 joy 9 needs 0;scene 1 joy 9;scene 1 joy 9 tells 0;");
+        worth(x, 2, 3, NONE);
+        worth(x, 2, 7, 27);
+        parts(x, 2, 7, 2, 5);
+        x.law(LEAST, 2);
+        worth(x, 2, 7, NONE);
+        worth(x, 3, 7, NONE);
+        worth(x, 1, 7, 27);
+        due("kind(2, 0, 0)", x.kind(2, 0, 0), NONE);
         x = told("scene 1 tells 0;scene 1 tells 1;scene 1;");
         parts(x, 2, 7, 1, 6);
         x.never(0, 1, true);
@@ -236,6 +246,12 @@ public final class StoryNumbersPlanBounds extends Answers {
             due("kind(" + n + ", 0, 0)", x.kind(n, 0, 0), n == 1 ? 63 : n > 10 ? NONE : 1023);
             due("kind(" + n + ", 0, 1)", x.kind(n, 0, 1), n > 10 ? NONE : 0);
         }
+        for (int scenes = 1; scenes <= 9; scenes++) {
+            x = told(clauses(scenes));
+            due("kind(scenes, 0, 0) of " + scenes, x.kind(scenes, 0, 0), (1 << scenes) - 1);
+            due("kind(scenes + 1, 0, 0) of " + scenes, x.kind(scenes + 1, 0, 0), NONE);
+            due("kind(12, 0, 1) of " + scenes, x.kind(12, 0, 1), NONE);
+        }
         due("kind(1, 0, 0) without a STORY", new StoryNumbers().kind(1, 0, 0), NONE);
     }
 
@@ -274,6 +290,13 @@ public final class StoryNumbersPlanBounds extends Answers {
         int set = x.kind(2, 1, 0);
         due("kind(2, 1, 0)", set, 3);
         due("kind(2, 1, 1)", x.kind(2, 1, 1), x.plan(2, set, NONE));
+        x = told("scene 1 opens 0;scene 1;scene 1 joy 1 opens 1;scene 1 shuts 0;");
+        due("kind(1, 0, 1)", x.kind(1, 0, 1), 1 + 2 + 4);
+        due("kind(2, 0, 1)", x.kind(2, 0, 1), 1 + (2 + 4) + (2 + 4));
+        due("kind(3, 0, 1)", x.kind(3, 0, 1), 1 + (2 + 4) + (4 + 4) + 2);
+        for (int n = 1; n <= 4; n++) {
+            due("kind(" + n + ", 0, 1)", x.kind(n, 0, 1), x.plan(n, 15, NONE));
+        }
     }
 
     private static void countOfChapters() {
@@ -341,6 +364,17 @@ public final class StoryNumbersPlanBounds extends Answers {
         number(x, 2);
         number(x, 0, 1);
         chapters(x, 18, 1, 2);
+        // printed ones may become fewer
+        x = told(clauses(5));
+        number(x, 0, 1);
+        x.keep(0);
+        number(x, 2, 3, 4);
+        chapters(x, 25, 5);
+        chapters(x, 13, 2, 3);
+        x.goBack(0);
+        chapters(x, 4, 2);
+        chapters(x, 2, 1, 1);
+        due("chapter(3, NONE)", x.chapter(3, NONE), NOT);
         x = told("scene 99;".repeat(10));
         x.law(MOST, 200);
         numberEach(x, 10);
@@ -417,6 +451,20 @@ public final class StoryNumbersPlanBounds extends Answers {
                 due("law(" + what + ")", x.law(what, others[what]), laws[what]);
             }
         }
+        // where NUMBERS end is kept, too
+        x = told(clauses(6));
+        x.keep(0);
+        number(x, 0);
+        number(x, 1, 2);
+        x.keep(1);
+        x.goBack(0);
+        number(x, 5, 4, 3);
+        number(x, 2);
+        due("goBack(1)", x.goBack(1), 1);
+        due("number(0, 0)", x.number(0, 0), 1);
+        due("number(1, 0)", x.number(1, 0), 2);
+        due("scene(2, 9)", x.scene(2, 9), 1);
+        due("scene(5, 9)", x.scene(5, 9), NONE);
         says("STATE i becomes what is so");
         x.keep(0);
         x.law(0, 5);

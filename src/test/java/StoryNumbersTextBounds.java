@@ -454,6 +454,14 @@ public final class StoryNumbersTextBounds extends Answers {
         due("scene(1, 9) printed", x.scene(1, 9), 0);
         number(x, 0);
         due("scene(0, 9) printed", x.scene(0, 9), 1);
+        x = told(clauses(10));
+        number(x, 4, 9, 0);
+        number(x, 8, 1);
+        int[] numbers = {0, 1, NONE, NONE, 0, NONE, NONE, NONE, 1, 0};
+        for (int k = 0; k < 10; k++) {
+            due("scene(" + k + ", 9)", x.scene(k, 9), numbers[k]);
+        }
+        x = told("scene 9;scene 8;");
         says("How many: 0 .. 7. OUTSIDE");
         due("count(-1)", x.count(-1), OUTSIDE);
         due("count(0)", x.count(0), 2);
