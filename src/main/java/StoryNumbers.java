@@ -511,7 +511,7 @@ public final class StoryNumbers {
 
         private void take(int word, int value) {
             if (Story.isList(word)) {
-                include(word, value);
+                told.include(told.count, word, value);
             } else {
                 told.put(told.count, word, value);
             }
@@ -522,12 +522,8 @@ public final class StoryNumbers {
             } else if (word == Story.DIES) {
                 dead |= 1 << value;
                 // who dies in a SCENE is in it, told so or not
-                include(Story.PERSONS, value);
+                told.include(told.count, Story.PERSONS, value);
             }
-        }
-
-        private void include(int word, int value) {
-            told.put(told.count, word, told.cell(told.count, word) | 1 << value);
         }
     }
 
@@ -550,6 +546,13 @@ public final class StoryNumbers {
         void put(int k, int what, int value) {
             if (k >= 0 && k < MOST_SCENES && what >= 0 && what < CELLS) {
                 cells[k][what] = value;
+            }
+        }
+
+        /** One more in the SET that a cell is. */
+        void include(int k, int what, int one) {
+            if (k >= 0 && k < MOST_SCENES && what >= 0 && what < CELLS) {
+                cells[k][what] |= 1 << one;
             }
         }
 
@@ -649,11 +652,11 @@ public final class StoryNumbers {
 
         /** SCENES that MAY come behind the SET. */
         int nextBehind(int set) {
-            return nextBehind(set, story.union(set, Story.OPENS), story.union(set, Story.TELLS), story.deadIn(set));
+            return nextWhere(set, story.union(set, Story.OPENS), story.union(set, Story.TELLS), story.deadIn(set));
         }
 
         /** The same, where it is known what the SET opens and tells and who dies in it. */
-        int nextBehind(int set, int opened, int told, int dead) {
+        int nextWhere(int set, int opened, int told, int dead) {
             int next = 0;
             for (int k = 0; k < story.count; k++) {
                 int[] scene = story.cells[k];
@@ -711,7 +714,7 @@ public final class StoryNumbers {
             }
             for (int set = 0; set < size; set++) {
                 open[set] = opened[set] & ~shut[set];
-                next[set] = rules.nextBehind(set, opened[set], told[set], dead[set]);
+                next[set] = rules.nextWhere(set, opened[set], told[set], dead[set]);
                 ways[set] = set == 0 ? 1 : 0;
                 fewest[set] = NONE;
             }
